@@ -212,6 +212,7 @@ public final class PromiseTest {
         malformed("11/1", 4);
         malformed("11/1/11", 4);
         malformed("11/111", 5);
+        malformed("1/11", 3);
         malformed("11/11/", 6);
         malformed("11/11/x", 6);
         malformed("11/1x1", 4);
@@ -356,6 +357,7 @@ public final class PromiseTest {
         }
         Check.due("11: no seat", 4, () -> box.state(0, 1, 3));
         Check.due("11: accessible", 0, () -> box.state(0, 1, 4));
+        Check.due("12: sold", 0, () -> box.holder(0, 0, 0));
         Check.due("12: sold", 0, () -> box.holder(0, 0, 1));
         Check.due("12: held", 1, () -> box.holder(0, 0, 2));
         Check.missing("12: blocked", () -> box.holder(0, 0, 4));
@@ -407,6 +409,7 @@ public final class PromiseTest {
         Check.due("14: category 1", 5, () -> box.blockCount(1, 1, 1, 0));
         Check.due("14: category 2", 3, () -> box.blockCount(1, 1, 2, 0));
         Check.due("14: category 3", 0, () -> box.blockCount(1, 1, 3, 0));
+        Check.due("14: category 4", 0, () -> box.blockCount(1, 1, 4, 0));
         Check.due("14: with the accessible place", 3, () -> box.blockCount(1, 3, 0, 1));
         Check.due("14: accessible is category 1", 1, () -> box.blockCount(1, 1, 1, 1));
         Check.due("14: accessible is not category 2", 0, () -> box.blockCount(1, 1, 2, 1));
@@ -597,6 +600,14 @@ public final class PromiseTest {
             box.confirm(i);
         }
         Check.due("18: 20 orders", 20, () -> box.count(3));
+        TheatreBoxOffice many = open("222222222222/222222222222", 1, 2, 3, 4, 5, 6);
+        for (int i = 0; i < 20; i++) {
+            many.hold(0, 63, 1, 0, 0, 60);
+            many.confirm(i);
+        }
+        Check.due("18: 120 tickets", 120, () -> many.count(4));
+        Check.due("18: the last ticket", 2700, () -> many.ticket(19, 5, 4));
+        Check.due("18: all paid", 120 * 2700, () -> many.account(0));
         box.hold(0, 3, 1, 0, 0, 60);
         Check.refused("18: one more", 2, box, () -> box.confirm(20));
         box.refund(5, 0);
@@ -667,6 +678,7 @@ public final class PromiseTest {
         Check.refused("21: no ticket", 5, box, () -> box.exchange(0, -1, 0));
         Check.refused("21: no ticket", 5, box, () -> box.exchange(0, 32, 0));
         Check.refused("21: another ticket", 6, box, () -> box.exchange(0, 0, 1));
+        Check.refused("21: another ticket", 6, box, () -> box.exchange(0, 1, 0));
         Check.due("21: the same performance", 2000, () -> box.exchange(0, 0, 0));
         Check.due("21: a new row", 1, () -> box.ticket(0, 0, 1));
         Check.due("21: old seats free", 0, () -> box.state(0, 0, 0));
@@ -704,6 +716,11 @@ public final class PromiseTest {
         box.block(3, 0, 2, false);
         Check.due("21: another accessible block", 0, () -> box.exchange(0, 0, 3));
         Check.due("21: the seats", 2, () -> box.state(3, 0, 2));
+        TheatreBoxOffice side = open("22w21", 1000);
+        side.hold(0, 1, 2, 2, 0, 1);
+        side.confirm(0);
+        Check.due("21: beside an accessible place, of any category", 1000, () -> side.exchange(0, 0, 0));
+        Check.due("21: a new column", 3, () -> side.ticket(0, 0, 2));
         TheatreBoxOffice own = open("222", 1000);
         own.hold(0, 1, 2, 0, 0, 1);
         own.confirm(0);

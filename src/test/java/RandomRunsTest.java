@@ -209,12 +209,37 @@ public final class RandomRunsTest {
         return true;
     }
 
+    /** Long after the 512th call, when answers are free, no call may throw what the document does not name. */
+    private boolean longRun(int run) {
+        seed = run * 104729L + 3;
+        room = run % 3;
+        TheatreBoxOffice box = new TheatreBoxOffice();
+        Model m = new Model();
+        for (int i = 0; i < 10 * CALLS; i++) {
+            Object[] call = next(m);
+            Object[] args = java.util.Arrays.copyOfRange(call, 1, call.length);
+            Method method = REAL.get((String) call[0]);
+            ask(MODEL.get((String) call[0]), m, args);
+            String got = ask(method, box, args);
+            boolean named = !got.endsWith("Exception") && !got.endsWith("Error");
+            for (Class<?> type : method.getExceptionTypes()) named |= got.equals(type.getSimpleName());
+            if (!named) {
+                System.out.println("long run " + run + ": " + call[0] + java.util.Arrays.toString(args) + " -> " + got);
+                return false;
+            }
+        }
+        return true;
+    }
+
     public static void main(String[] args) {
         RandomRunsTest test = new RandomRunsTest();
         int wrong = 0;
         int runs = args.length > 0 ? Integer.parseInt(args[0]) : RUNS;
         for (int run = 0; run < runs && wrong < 3; run++) {
             if (!test.run(run)) wrong++;
+        }
+        for (int run = 0; run < 30; run++) {
+            if (!test.longRun(run)) wrong++;
         }
         if (args.length > 0) new java.util.TreeMap<>(test.seen).forEach((k, v) -> System.out.println(k + ": " + v));
         System.out.println("RandomRunsTest: " + runs + " runs, " + wrong + " wrong");
