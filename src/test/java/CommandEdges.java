@@ -344,13 +344,28 @@ final class CommandEdges {
 
     // Promises 31 to 33
 
+    /** A hold whose block depends on the rule. */
+    private static Edge.Steps ruled(boolean rule) {
+        return Edge.open("22222/22222", 500).then(b -> b.setRule(!rule)).then(b -> b.setRule(rule))
+                .then(b -> b.hold(0, 1, 2, 0, 0, 9));
+    }
+
+    /** A hold whose block depends on whether a seat is blocked. */
+    private static Edge.Steps blocked(boolean on) {
+        return Edge.at(500).then(b -> b.block(0, 1, 2, !on)).then(b -> b.block(0, 1, 2, on))
+                .then(b -> b.hold(0, 1, 1, 0, 0, 9));
+    }
+
     private static void replay() {
         Edge.Steps[] states = {Edge.NEW, Edge.hall("1"), Edge.hall("."), RICH, RICH.then(Box::undo),
             RICH.then(Edge.times(8, Box::undo)), RICH.then(Box::restore), RICH.then(Edge.hall("wc")),
             RICH.then(Edge.hall("wc")).then(Box::restore), RICH.then(b -> b.advance(60)),
             RICH.then(b -> b.exchange(0, 0, 0)).then(b -> b.advance(469)).then(b -> b.refund(0, 0)),
             RICH.then(b -> b.release(1)).then(b -> b.hold(5, 4, 1, 0, 1, 60)), Edge.until(100000), prices(1, 30),
-            prices(1, 30).then(Edge.times(8, Box::undo)).then(prices(1, 9)), Edge.at(1, 2, 3, 4, 5, 6)};
+            prices(1, 30).then(Edge.times(8, Box::undo)).then(prices(1, 9)), Edge.at(1, 2, 3, 4, 5, 6),
+            ruled(false), ruled(true), ruled(false).then(b -> b.setRule(true)).then(b -> b.hold(0, 1, 2, 0, 0, 9)),
+            ruled(true).then(b -> b.setRule(false)).then(b -> b.hold(0, 1, 2, 0, 0, 9)),
+            blocked(true), blocked(false), blocked(true).then(b -> b.block(0, 1, 2, false))};
         Edge.sentence("Promise 31", "Carries out all commands that were not undone once more, and compares the outcome "
                 + "with the present time, prices, states, holds, tickets, accounts and the ledger.");
         for (Edge.Steps state : states) {

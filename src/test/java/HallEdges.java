@@ -381,6 +381,10 @@ final class HallEdges {
         Edge.due(true, busy().then(Edge.hall("1")), b -> b.setRule(true));
         Edge.due(4000, busy().then(Edge.hall("1")), b -> b.setPrice(1, 1));
         Edge.asked(true, busy().then(Edge.hall("1")), Box::isReplayed);
+        Edge.Steps kept = Edge.at(500).then(Edge.sold(0, 1, 1)).then(b -> b.advance(400)).then(b -> b.refund(0, 0));
+        Edge.asked(1500, kept, b -> b.performance(0, 2));
+        Edge.asked(0, kept.then(Edge.open("1", 9)), b -> b.performance(0, 2));
+        Edge.alike(Edge.open("1", 9), kept.then(Edge.open("1", 9)));
     }
 
     private static void loadLeaves() {

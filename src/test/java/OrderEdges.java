@@ -251,11 +251,20 @@ final class OrderEdges {
         Edge.Steps last = Edge.open("11w/111", 500, 600).then(b -> b.hold(0, 1, 3, 0, 1, 9)).then(b -> b.confirm(0));
         Edge.asked(0, last, b -> b.ticket(0, 0, 1));
         Edge.asked(0, last.then(b -> b.exchange(0, 0, 1)), b -> b.ticket(0, 1, 1));
+        beside("22w3", 3);
+        beside("3w22", 0);
         Edge.Steps companion = Edge.open("2c", 500, 560).then(b -> b.hold(0, 1, 1, 2, 0, 9))
                 .then(b -> b.confirm(0)).then(b -> b.block(1, 0, 0, true));
         Edge.refused(1, companion.then(b -> b.advance(439)), b -> b.exchange(0, 0, 0));
         Edge.due(1000, companion.then(b -> b.advance(440)), b -> b.exchange(0, 0, 0));
         Edge.refused(1, companion.then(b -> b.advance(499)), b -> b.exchange(0, 0, 1));
+    }
+
+    /** A ticket beside an accessible place is exchanged for the seat of the category 3, which has none beside. */
+    private static void beside(String row, int column) {
+        Edge.Steps steps = Edge.open(row, 500).then(b -> b.setRule(false)).then(b -> b.hold(0, 1, 1, 2, 0, 9))
+                .then(b -> b.confirm(0)).then(b -> b.hold(0, 1, 1, 2, 0, 9));
+        Edge.asked(column, steps.then(b -> b.exchange(0, 0, 0)), b -> b.ticket(0, 0, 2));
     }
 
     private static void exchangedAmount() {
