@@ -220,6 +220,7 @@ final class Edge {
     }
 
     static void end(String name) {
+        if (!Doc.isThere()) System.out.println(name + ": the document is not there; what is quoted was not compared");
         for (String sentence : Doc.unnamed()) {
             wrong++;
             System.out.println("no test names the sentence " + sentence);
