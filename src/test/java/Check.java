@@ -42,7 +42,7 @@ final class Check {
     }
 
     /** The call must be refused for a reason. */
-    static void refused(String what, int reason, TheatreBoxOffice box, Call call) {
+    static void refused(String what, int reason, Box box, Call call) {
         due(what, "IllegalStateException", call);
         due(what + ", the reason", reason, box::reason);
     }

@@ -3,30 +3,24 @@ public final class PromiseTest {
     private PromiseTest() {
     }
 
-    private static void type(TheatreBoxOffice box, String text) {
-        for (int i = 0; i < text.length(); i++) {
-            box.append(text.charAt(i));
-        }
-    }
-
-    private static TheatreBoxOffice hall(String map) {
-        TheatreBoxOffice box = new TheatreBoxOffice();
-        type(box, map);
+    private static Box hall(String map) {
+        Box box = new Box();
+        box.type(map);
         box.load();
         return box;
     }
 
     /** The first hall with a number of performances, at 1000, 2000 and so on, at the full price. */
-    private static TheatreBoxOffice open(int performances) {
-        TheatreBoxOffice box = new TheatreBoxOffice();
+    private static Box open(int performances) {
+        Box box = new Box();
         for (int i = 1; i <= performances; i++) {
             box.addPerformance(1000 * i, 100);
         }
         return box;
     }
 
-    private static TheatreBoxOffice open(String map, int... starts) {
-        TheatreBoxOffice box = hall(map);
+    private static Box open(String map, int... starts) {
+        Box box = hall(map);
         for (int start : starts) {
             box.addPerformance(start, 100);
         }
@@ -34,11 +28,11 @@ public final class PromiseTest {
     }
 
     /** Row and first column of the best block, as ten times the row plus the column. */
-    private static int bestAt(TheatreBoxOffice box, int set, int seats, int category, int kind) {
+    private static int bestAt(Box box, int set, int seats, int category, int kind) {
         return box.best(set, seats, category, kind, 0) * 10 + box.best(set, seats, category, kind, 1);
     }
 
-    private static String ledger(TheatreBoxOffice box) {
+    private static String ledger(Box box) {
         StringBuilder text = new StringBuilder();
         for (int i = 0; i < box.ledger(-1, 0); i++) {
             text.append(box.ledger(i, 0)).append(' ').append(box.ledger(i, 1)).append(' ')
@@ -47,53 +41,19 @@ public final class PromiseTest {
         return text.toString();
     }
 
-    /** All that the questions tell, so that two moments can be compared. */
-    private static String all(TheatreBoxOffice box) {
-        StringBuilder text = new StringBuilder(ledger(box));
-        for (int what = 0; what <= 7; what++) {
-            text.append(box.count(what)).append(' ');
-        }
-        for (int customer = 0; customer < 10; customer++) {
-            text.append(box.account(customer)).append(' ');
-        }
-        for (int row = 0; row < 8; row++) {
-            for (int column = 0; column < 12; column++) {
-                int r = row;
-                int c = column;
-                for (int what = 0; what <= 2; what++) {
-                    int w = what;
-                    text.append(Check.outcome(() -> box.place(r, c, w))).append(' ');
-                }
-                for (int p = 0; p < box.count(1); p++) {
-                    int q = p;
-                    text.append(Check.outcome(() -> box.state(q, r, c))).append(' ');
-                    text.append(Check.outcome(() -> box.holder(q, r, c))).append(' ');
-                }
-            }
-        }
-        for (int p = 0; p < box.count(1); p++) {
-            for (int what = 0; what <= 7; what++) {
-                text.append(box.performance(p, what)).append(' ');
-            }
-            for (int seats = 1; seats <= 8; seats++) {
-                int s = seats;
-                int q = p;
-                text.append(Check.outcome(() -> bestAt(box, 1 << q, s, 0, 0))).append(' ');
-            }
-        }
-        for (int number = 0; number < box.count(5); number++) {
-            int n = number;
-            for (int what = 0; what <= 5; what++) {
-                int w = what;
-                text.append(Check.outcome(() -> box.heldBy(n, w))).append(' ');
-                text.append(Check.outcome(() -> box.ticket(n, w, 4))).append(' ');
-            }
-        }
-        return text.toString();
+    private static Box made(Edge.Steps steps) {
+        Box box = new Box();
+        steps.on(box);
+        return box;
+    }
+
+    /** The second steps must lead to all that can be seen after the first ones. */
+    private static void alike(String what, Edge.Steps first, Edge.Steps second) {
+        Check.due(what, Seen.present(first), () -> Seen.present(second));
     }
 
     private static void newObject() {
-        TheatreBoxOffice box = new TheatreBoxOffice();
+        Box box = new Box();
         Check.due("1: seats", 18, () -> box.count(6));
         Check.due("1: category", 2, () -> box.place(2, 5, 0));
         Check.due("1: plain", 0, () -> box.place(2, 5, 1));
@@ -113,7 +73,7 @@ public final class PromiseTest {
     }
 
     private static void append() {
-        TheatreBoxOffice box = new TheatreBoxOffice();
+        Box box = new Box();
         Check.due("2: first", 1, () -> box.append(' '));
         Check.due("2: second", 2, () -> box.append('~'));
         Check.argument("2: 31", () -> box.append((char) 31));
@@ -132,27 +92,27 @@ public final class PromiseTest {
     }
 
     private static void malformed(String text, int position) {
-        TheatreBoxOffice box = open(1);
-        String before = all(box);
-        type(box, text);
+        Edge.Steps before = Edge.at(1000);
+        Edge.Steps typed = before.then(Edge.type(text));
+        Box box = made(typed);
         Check.argument("3: " + text, box::load);
         Check.due("4: position of " + text, position, box::errorPosition);
-        Check.due("3: unchanged by " + text, before, () -> all(box));
         Check.due("3: buffer empty after " + text, 1, () -> box.append('1'));
+        alike("3: unchanged by " + text, before, typed.then(b -> Check.outcome(b::load)));
     }
 
     private static void tooLarge(String text) {
-        TheatreBoxOffice box = open(1);
-        String before = all(box);
-        type(box, text);
+        Edge.Steps before = Edge.at(1000);
+        Edge.Steps typed = before.then(Edge.type(text));
+        Box box = made(typed);
         Check.due("3: " + text, "UnsupportedOperationException", box::load);
-        Check.due("3: unchanged by " + text, before, () -> all(box));
         Check.due("3: buffer empty after " + text, 1, () -> box.append('1'));
         Check.missing("4: large is not malformed " + text, box::errorPosition);
+        alike("3: unchanged by " + text, before, typed.then(b -> Check.outcome(b::load)));
     }
 
     private static void load() {
-        TheatreBoxOffice box = open(2);
+        Box box = open(2);
         box.hold(1, 3, 2, 0, 0, 10);
         box.confirm(0);
         box.hold(2, 1, 2, 0, 0, 10);
@@ -163,7 +123,7 @@ public final class PromiseTest {
         box.snapshot();
         Check.range("3: before", () -> box.exchange(0, 0, 7));
         Check.refused("3: before", 5, box, () -> box.refund(1, 1));
-        type(box, "1.w/2c./34./..1");
+        box.type("1.w/2c./34./..1");
         Check.due("3: seats", 7, box::load);
         Check.due("3: reason stays", 5, box::reason);
         int[] counts = {0, 0, 0, 0, 0, 0, 7, 0};
@@ -199,7 +159,7 @@ public final class PromiseTest {
     }
 
     private static void errorPosition() {
-        Check.missing("4: none", () -> new TheatreBoxOffice().errorPosition());
+        Check.missing("4: none", () -> new Box().errorPosition());
         malformed("", 0);
         malformed("/", 0);
         malformed("/1", 0);
@@ -219,23 +179,23 @@ public final class PromiseTest {
         malformed("1/1/1/1/1/1/1/1/1/", 18);
         malformed("1111111111111/1", 15);
         malformed("1111111111111/11111111111111", 27);
-        TheatreBoxOffice box = new TheatreBoxOffice();
-        type(box, "1/x");
+        Box box = new Box();
+        box.type("1/x");
         Check.argument("4: malformed", box::load);
-        type(box, "1/1");
+        box.type("1/1");
         Check.due("4: then a map", 2, box::load);
-        type(box, "1/1/1/1/1/1/1/1/1");
+        box.type("1/1/1/1/1/1/1/1/1");
         Check.due("4: then a large map", "UnsupportedOperationException", box::load);
         box.setRule(true);
         box.undo();
         Check.due("4: the last one stays", 2, box::errorPosition);
-        type(box, "1x");
+        box.type("1x");
         Check.argument("4: malformed again", box::load);
         Check.due("4: the newer one", 1, box::errorPosition);
     }
 
     private static void place() {
-        TheatreBoxOffice box = hall("1234wc./1111111");
+        Box box = hall("1234wc./1111111");
         int[] categories = {1, 2, 3, 4, 1, 1, 0};
         int[] kinds = {0, 0, 0, 0, 1, 2, 0};
         int[] distances = {6, 4, 2, 0, 2, 4, 6};
@@ -246,7 +206,7 @@ public final class PromiseTest {
             Check.due("5: distance in the focus row", distances[c], () -> box.place(1, c, 2));
             Check.due("5: distance beside it", distances[c] + 4, () -> box.place(0, c, 2));
         }
-        TheatreBoxOffice first = new TheatreBoxOffice();
+        Box first = new Box();
         Check.due("5: even number of columns", 1, () -> first.place(1, 2, 2));
         Check.due("5: even number of columns", 1, () -> first.place(1, 3, 2));
         first.setFocus(0);
@@ -261,7 +221,7 @@ public final class PromiseTest {
     }
 
     private static void addPerformance() {
-        TheatreBoxOffice box = new TheatreBoxOffice();
+        Box box = new Box();
         Check.argument("6: start 0", () -> box.addPerformance(0, 100));
         Check.argument("6: start 100001", () -> box.addPerformance(100001, 100));
         Check.argument("6: factor 9", () -> box.addPerformance(1, 9));
@@ -279,12 +239,12 @@ public final class PromiseTest {
         Check.refused("6: seven", 2, box, () -> box.addPerformance(51, 100));
         Check.due("6: all free", 18, () -> box.performance(5, 3));
         Check.due("6: six", 6, () -> box.count(1));
-        TheatreBoxOffice other = open("1./w1", 10);
+        Box other = open("1./w1", 10);
         Check.due("6: no seat stays no seat", 4, () -> other.state(0, 0, 1));
     }
 
     private static void setPrice() {
-        TheatreBoxOffice box = open("1234", 1000);
+        Box box = open("1234", 1000);
         Check.due("7: previous", 3000, () -> box.setPrice(2, 100000));
         Check.due("7: previous", 100000, () -> box.setPrice(2, 0));
         Check.due("7: to 0", 0, () -> box.setPrice(2, 77));
@@ -298,7 +258,7 @@ public final class PromiseTest {
     }
 
     private static void setFocus() {
-        TheatreBoxOffice box = open(1);
+        Box box = open(1);
         Check.due("8: previous", 1, () -> box.setFocus(2));
         Check.due("8: previous", 2, () -> box.setFocus(0));
         Check.due("8: the best block follows", 2, () -> bestAt(box, 1, 2, 0, 0));
@@ -308,7 +268,7 @@ public final class PromiseTest {
     }
 
     private static void setRule() {
-        TheatreBoxOffice box = open("22222", 1000);
+        Box box = open("22222", 1000);
         Check.due("9: a block at the edge", 0, () -> bestAt(box, 1, 3, 0, 0));
         Check.due("9: before", true, () -> box.setRule(false));
         Check.due("9: a block in the middle", 1, () -> bestAt(box, 1, 3, 0, 0));
@@ -320,7 +280,7 @@ public final class PromiseTest {
     }
 
     private static void block() {
-        TheatreBoxOffice box = open("12./222", 1000, 2000);
+        Box box = open("12./222", 1000, 2000);
         Check.due("10: block", false, () -> box.block(0, 0, 0, true));
         Check.due("10: blocked", 3, () -> box.state(0, 0, 0));
         Check.due("10: not in the other", 0, () -> box.state(1, 0, 0));
@@ -344,7 +304,7 @@ public final class PromiseTest {
     }
 
     private static void state() {
-        TheatreBoxOffice box = open("22222/....w", 1000, 2000);
+        Box box = open("22222/....w", 1000, 2000);
         box.hold(4, 1, 2, 0, 0, 60);
         box.hold(5, 1, 2, 0, 0, 60);
         box.confirm(0);
@@ -377,7 +337,7 @@ public final class PromiseTest {
     }
 
     private static void advance() {
-        TheatreBoxOffice box = open(2);
+        Box box = open(2);
         box.hold(0, 3, 2, 0, 0, 10);
         box.hold(1, 1, 2, 0, 0, 11);
         box.hold(2, 1, 2, 0, 0, 10);
@@ -403,7 +363,7 @@ public final class PromiseTest {
     }
 
     private static void blockCount() {
-        TheatreBoxOffice box = open("112w21/c1..21", 61, 2000);
+        Box box = open("112w21/c1..21", 61, 2000);
         Check.due("14: single seats", 8, () -> box.blockCount(1, 1, 0, 0));
         Check.due("14: pairs", 4, () -> box.blockCount(1, 2, 0, 0));
         Check.due("14: category 1", 5, () -> box.blockCount(1, 1, 1, 0));
@@ -424,18 +384,18 @@ public final class PromiseTest {
         Check.due("14: free in all", 7, () -> box.blockCount(3, 1, 0, 0));
         Check.due("14: free in one", 7, () -> box.blockCount(2, 1, 0, 0));
         Check.due("14: free in the other", 9, () -> box.blockCount(1, 1, 0, 0));
-        TheatreBoxOffice two = open("wwc2", 1000);
+        Box two = open("wwc2", 1000);
         Check.due("14: exactly one accessible", 2, () -> two.blockCount(1, 1, 0, 1));
         Check.due("14: not two", 1, () -> two.blockCount(1, 2, 0, 1));
         Check.due("14: companions with kind 1", 1, () -> two.blockCount(1, 3, 0, 1));
         Check.due("14: kind 1 needs one", 1, () -> two.blockCount(1, 1, 0, 0));
-        TheatreBoxOffice wide = open("222222222222", 1000);
+        Box wide = open("222222222222", 1000);
         Check.due("14: eight", 5, () -> wide.blockCount(1, 8, 0, 0));
         wrongRequests(box);
-        Check.range("14: no performances", () -> new TheatreBoxOffice().blockCount(1, 1, 0, 0));
+        Check.range("14: no performances", () -> new Box().blockCount(1, 1, 0, 0));
     }
 
-    private static void wrongRequests(TheatreBoxOffice box) {
+    private static void wrongRequests(Box box) {
         for (int set : new int[] {0, 4, 5, -1, Integer.MIN_VALUE, Integer.MIN_VALUE + 1}) {
             Check.range("14: set", () -> box.blockCount(set, 0, 0, 0));
             Check.range("15: set", () -> box.best(set, 0, 0, 0, 9));
@@ -450,7 +410,7 @@ public final class PromiseTest {
     }
 
     private static void best() {
-        TheatreBoxOffice box = open(2);
+        Box box = open(2);
         Check.due("15: row", 1, () -> box.best(3, 2, 0, 0, 0));
         Check.due("15: column", 2, () -> box.best(3, 2, 0, 0, 1));
         Check.due("15: distance", 2, () -> box.best(3, 2, 0, 0, 2));
@@ -465,7 +425,7 @@ public final class PromiseTest {
         Check.missing("15: no accessible place", () -> box.best(1, 1, 0, 1, 0));
         bestOrphans();
         bestOfEqual();
-        TheatreBoxOffice cheap = open("11", 1000);
+        Box cheap = open("11", 1000);
         cheap.addPerformance(1000, 33);
         cheap.setPrice(1, 101);
         Check.due("15: each price is rounded down", 66, () -> cheap.best(2, 2, 0, 0, 4));
@@ -474,16 +434,16 @@ public final class PromiseTest {
     }
 
     private static void bestOrphans() {
-        TheatreBoxOffice edge = open("2222", 1000);
+        Box edge = open("2222", 1000);
         Check.due("15: an orphan before the edge", 1, () -> edge.best(1, 3, 0, 0, 3));
-        TheatreBoxOffice gap = open("2.222", 1000);
+        Box gap = open("2.222", 1000);
         gap.block(0, 0, 0, true);
         Check.due("15: an orphan beside no seat", 1, () -> gap.best(1, 2, 0, 0, 3));
-        TheatreBoxOffice special = open("wc2", 1000);
+        Box special = open("wc2", 1000);
         Check.due("15: an accessible place and a companion can be none", 0, () -> special.best(1, 1, 2, 0, 3));
         special.block(0, 0, 0, true);
         Check.due("15: a companion can be one", 1, () -> special.best(1, 1, 2, 0, 3));
-        TheatreBoxOffice two = open("2222", 1000, 2000);
+        Box two = open("2222", 1000, 2000);
         two.block(0, 0, 0, true);
         two.block(1, 0, 1, true);
         Check.due("15: on the left side, not free behind in the second", 1, () -> two.best(3, 1, 0, 0, 3));
@@ -492,14 +452,14 @@ public final class PromiseTest {
         two.block(0, 0, 0, true);
         two.block(0, 0, 1, true);
         Check.due("15: free and not free in different performances", 0, () -> two.best(3, 2, 0, 0, 3));
-        TheatreBoxOffice both = open("2222", 1000, 2000);
+        Box both = open("2222", 1000, 2000);
         both.block(0, 0, 0, true);
         Check.due("15: in one performance of two", 1, () -> both.best(3, 2, 0, 0, 3));
         Check.due("15: in the other none", 0, () -> both.best(2, 2, 0, 0, 3));
     }
 
     private static void bestOfEqual() {
-        TheatreBoxOffice box = open("2222222/2222222/2222222", 1000);
+        Box box = open("2222222/2222222/2222222", 1000);
         box.setRule(false);
         Check.due("15: the least sum", 13, () -> bestAt(box, 1, 1, 0, 0));
         box.block(0, 1, 3, true);
@@ -510,13 +470,13 @@ public final class PromiseTest {
         Check.due("15: the lowest row of equal ones", 3, () -> bestAt(box, 1, 1, 0, 0));
         box.block(0, 0, 3, true);
         Check.due("15: the least sum before the row", 23, () -> bestAt(box, 1, 1, 0, 0));
-        TheatreBoxOffice rule = open("22222/222..", 1000);
+        Box rule = open("22222/222..", 1000);
         Check.due("15: fewest orphans before the sum", 10, () -> bestAt(rule, 1, 3, 0, 0));
         Check.due("15: their sum is larger", 6, () -> rule.best(1, 3, 0, 0, 2));
     }
 
     private static void hold() {
-        TheatreBoxOffice box = open(2);
+        Box box = open(2);
         Check.due("16: the first", 0, () -> box.hold(9, 3, 2, 2, 0, 60));
         Check.due("16: held", 1, () -> box.state(1, 1, 3));
         Check.due("16: the second", 1, () -> box.hold(0, 1, 1, 0, 0, 1));
@@ -529,7 +489,7 @@ public final class PromiseTest {
         Check.argument("16: minutes 61", () -> box.hold(0, 1, 1, 0, 0, 61));
         Check.refused("16: no block", 1, box, () -> box.hold(0, 1, 7, 0, 0, 1));
         Check.due("16: nothing made", 3, () -> box.count(5));
-        TheatreBoxOffice full = open("2222222/2222222", 1000, 5000);
+        Box full = open("2222222/2222222", 1000, 5000);
         for (int i = 0; i < 12; i++) {
             full.hold(i % 10, 1, 1, 0, 0, 60);
         }
@@ -544,7 +504,7 @@ public final class PromiseTest {
     }
 
     private static void release() {
-        TheatreBoxOffice box = open(2);
+        Box box = open(2);
         box.hold(0, 3, 2, 0, 0, 60);
         box.hold(0, 1, 2, 0, 0, 5);
         box.advance(4);
@@ -564,7 +524,7 @@ public final class PromiseTest {
     }
 
     private static void confirm() {
-        TheatreBoxOffice box = open("2211", 1000, 2000);
+        Box box = open("2211", 1000, 2000);
         box.addPerformance(3000, 33);
         box.setPrice(2, 105);
         box.hold(7, 3, 2, 2, 0, 60);
@@ -594,13 +554,13 @@ public final class PromiseTest {
     }
 
     private static void confirmLimit() {
-        TheatreBoxOffice box = open("222222222222/222222222222", 1000, 2000);
+        Box box = open("222222222222/222222222222", 1000, 2000);
         for (int i = 0; i < 20; i++) {
             box.hold(0, 1, 1, 0, 0, 60);
             box.confirm(i);
         }
         Check.due("18: 20 orders", 20, () -> box.count(3));
-        TheatreBoxOffice many = open("222222222222/222222222222", 1, 2, 3, 4, 5, 6);
+        Box many = open("222222222222/222222222222", 1, 2, 3, 4, 5, 6);
         for (int i = 0; i < 20; i++) {
             many.hold(0, 63, 1, 0, 0, 60);
             many.confirm(i);
@@ -616,7 +576,7 @@ public final class PromiseTest {
         Check.refused("18: one more again", 2, box, () -> box.confirm(21));
         box.refund(20, 0);
         Check.refused("18: the order has a ticket left", 2, box, () -> box.confirm(21));
-        TheatreBoxOffice late = open("222222222222/222222222222", 10, 2000);
+        Box late = open("222222222222/222222222222", 10, 2000);
         for (int i = 0; i < 20; i++) {
             late.hold(0, 2, 1, 0, 0, 60);
             late.confirm(i);
@@ -627,7 +587,7 @@ public final class PromiseTest {
     }
 
     private static void heldBy() {
-        TheatreBoxOffice box = open(3);
+        Box box = open(3);
         box.advance(7);
         box.hold(1, 1, 1, 0, 0, 1);
         box.hold(8, 5, 3, 0, 0, 30);
@@ -645,7 +605,7 @@ public final class PromiseTest {
     }
 
     private static void ticket() {
-        TheatreBoxOffice box = open(3);
+        Box box = open(3);
         box.hold(8, 5, 3, 0, 0, 30);
         Check.missing("20: a hold is no order", () -> box.ticket(0, 0, 0));
         box.confirm(0);
@@ -668,7 +628,7 @@ public final class PromiseTest {
     }
 
     private static void exchange() {
-        TheatreBoxOffice box = open("222/111", 1000, 2000, 3000);
+        Box box = open("222/111", 1000, 2000, 3000);
         box.hold(3, 3, 2, 2, 0, 60);
         box.confirm(0);
         Check.range("21: no performance", () -> box.exchange(0, 0, 3));
@@ -702,7 +662,7 @@ public final class PromiseTest {
     }
 
     private static void exchangeKinds() {
-        TheatreBoxOffice box = open("22w1/22w1", 1000, 2000, 3000, 4000);
+        Box box = open("22w1/22w1", 1000, 2000, 3000, 4000);
         box.hold(3, 7, 2, 0, 1, 60);
         Check.due("21: with a tenth less", (4000 + 4000) * 9 / 10 * 3, () -> box.confirm(0));
         Check.due("21: accessible again, without the tenth", 800, () -> box.exchange(0, 0, 0));
@@ -716,18 +676,16 @@ public final class PromiseTest {
         box.block(3, 0, 2, false);
         Check.due("21: another accessible block", 0, () -> box.exchange(0, 0, 3));
         Check.due("21: the seats", 2, () -> box.state(3, 0, 2));
-        TheatreBoxOffice side = open("22w21", 1000);
+        Box side = open("22w21", 1000);
         side.hold(0, 1, 2, 2, 0, 1);
         side.confirm(0);
         Check.due("21: beside an accessible place, of any category", 1000, () -> side.exchange(0, 0, 0));
         Check.due("21: a new column", 3, () -> side.ticket(0, 0, 2));
-        TheatreBoxOffice own = open("222", 1000);
-        own.hold(0, 1, 2, 0, 0, 1);
-        own.confirm(0);
-        String before = all(own);
-        Check.refused("21: its own seats are not free", 1, own, () -> own.exchange(0, 0, 0));
-        Check.due("21: unchanged", before, () -> all(own));
-        TheatreBoxOffice plain = open("22.ww.cc", 1000, 1030);
+        Edge.Steps own = Edge.open("222", 1000).then(Edge.sold(0, 1, 2));
+        Box tried = made(own);
+        Check.refused("21: its own seats are not free", 1, tried, () -> tried.exchange(0, 0, 0));
+        alike("21: unchanged", own, own.then(b -> Check.outcome(() -> b.exchange(0, 0, 0))));
+        Box plain = open("22.ww.cc", 1000, 1030);
         plain.hold(0, 1, 2, 0, 0, 1);
         plain.confirm(0);
         plain.block(1, 0, 0, true);
@@ -738,7 +696,7 @@ public final class PromiseTest {
     }
 
     private static void refund() {
-        TheatreBoxOffice box = open("22222222", 1000);
+        Box box = open("22222222", 1000);
         box.addPerformance(500, 37);
         box.setPrice(2, 1001);
         for (int i = 0; i < 4; i++) {
@@ -770,7 +728,7 @@ public final class PromiseTest {
         box.advance(1);
         Check.refused("22: started", 3, box, () -> box.refund(1, 0));
         Check.refused("22: no ticket comes first", 5, box, () -> box.refund(0, 0));
-        TheatreBoxOffice free = open("1", 1000);
+        Box free = open("1", 1000);
         free.setPrice(1, 0);
         free.hold(5, 1, 1, 0, 0, 1);
         free.confirm(0);
@@ -779,7 +737,7 @@ public final class PromiseTest {
     }
 
     private static void performance() {
-        TheatreBoxOffice box = hall("1234.w");
+        Box box = hall("1234.w");
         box.addPerformance(77, 50);
         box.addPerformance(1000, 250);
         box.block(1, 0, 0, true);
@@ -800,7 +758,7 @@ public final class PromiseTest {
     }
 
     private static void account() {
-        TheatreBoxOffice box = open(1);
+        Box box = open(1);
         box.hold(0, 1, 1, 0, 0, 60);
         box.hold(9, 1, 2, 0, 0, 60);
         Check.due("24: a hold costs nothing", 0, () -> box.account(9));
@@ -819,7 +777,7 @@ public final class PromiseTest {
     }
 
     private static void soldShare() {
-        TheatreBoxOffice box = open("222.wc/2222..", 1000);
+        Box box = open("222.wc/2222..", 1000);
         Check.due("25: none", 0.0, () -> box.soldShare(0));
         box.hold(0, 1, 2, 0, 0, 60);
         box.block(0, 0, 4, true);
@@ -828,14 +786,14 @@ public final class PromiseTest {
         Check.due("25: two of nine", 2.0 / 9.0, () -> box.soldShare(0));
         Check.range("25: -1", () -> box.soldShare(-1));
         Check.range("25: 1", () -> box.soldShare(1));
-        TheatreBoxOffice empty = open("../..", 1000);
+        Box empty = open("../..", 1000);
         Check.due("25: no seats", "ArithmeticException", () -> empty.soldShare(0));
         Check.range("25: the performance comes first", () -> empty.soldShare(1));
         Check.due("25: no seats, no reason", 0, empty::reason);
     }
 
     private static void meanAmount() {
-        TheatreBoxOffice box = open("1222", 1000, 2000);
+        Box box = open("1222", 1000, 2000);
         Check.due("26: none", "ArithmeticException", box::meanAmount);
         box.hold(0, 3, 1, 1, 0, 60);
         Check.due("26: a hold", "ArithmeticException", box::meanAmount);
@@ -856,7 +814,7 @@ public final class PromiseTest {
     }
 
     private static void count() {
-        TheatreBoxOffice box = open(3);
+        Box box = open(3);
         box.hold(0, 7, 1, 0, 0, 60);
         box.hold(0, 3, 1, 0, 0, 60);
         box.hold(0, 1, 1, 0, 0, 60);
@@ -884,7 +842,7 @@ public final class PromiseTest {
     }
 
     private static void ledgerLimit() {
-        TheatreBoxOffice box = open("222222222222", 1000);
+        Box box = open("222222222222", 1000);
         Check.due("28: none", 0, () -> box.ledger(-1, 77));
         Check.range("28: none", () -> box.ledger(0, 0));
         Check.range("28: -2", () -> box.ledger(-2, 0));
@@ -914,7 +872,7 @@ public final class PromiseTest {
     }
 
     private static void reason() {
-        TheatreBoxOffice box = new TheatreBoxOffice();
+        Box box = new Box();
         Check.refused("29: nothing to do", 7, box, box::undo);
         Check.argument("29: another exception", () -> box.advance(0));
         Check.due("29: stays", 7, box::reason);
@@ -928,42 +886,38 @@ public final class PromiseTest {
         box.setRule(true);
         box.undo();
         Check.due("29: stays after undo", 1, box::reason);
-        type(box, "1");
+        box.type("1");
         box.load();
         Check.due("29: stays after load", 1, box::reason);
     }
 
     private static void undo() {
-        TheatreBoxOffice box = open(2);
+        Box box = open(2);
         Check.due("30: undo", 1, box::undo);
         Check.due("30: undo", 0, box::undo);
         Check.refused("30: none left", 7, box, box::undo);
-        box.addPerformance(1000, 100);
-        box.addPerformance(2000, 100);
-        box.hold(1, 3, 2, 0, 0, 60);
-        box.hold(2, 1, 1, 0, 0, 20);
-        box.confirm(0);
-        Runnable[] commands = {
-            () -> box.addPerformance(3000, 100), () -> box.setPrice(2, 5), () -> box.setFocus(0),
-            () -> box.setRule(false), () -> box.block(0, 0, 0, true), () -> box.advance(30),
-            () -> box.hold(0, 1, 1, 0, 0, 1), () -> box.release(1), () -> box.confirm(1),
-            () -> box.exchange(0, 0, 0), () -> box.refund(0, 1)};
-        for (Runnable command : commands) {
-            String before = all(box);
-            command.run();
-            Check.due("30: something changed", false, () -> before.equals(all(box)));
-            Check.due("30: undone", 5, box::undo);
-            Check.due("30: as before", before, () -> all(box));
-            Check.due("30: replayed", true, box::isReplayed);
-            command.run();
-            box.undo();
+        Edge.Steps steps = Edge.at(1000, 2000).then(b -> b.hold(1, 3, 2, 0, 0, 60))
+                .then(b -> b.hold(2, 1, 1, 0, 0, 20)).then(b -> b.confirm(0));
+        Edge.Steps[] commands = {
+            b -> b.addPerformance(3000, 100), b -> b.setPrice(2, 5), b -> b.setFocus(0),
+            b -> b.setRule(false), b -> b.block(0, 0, 0, true), b -> b.advance(30),
+            b -> b.hold(0, 1, 1, 0, 0, 1), b -> b.release(1), b -> b.confirm(1),
+            b -> b.exchange(0, 0, 0), b -> b.refund(0, 1)};
+        for (Edge.Steps command : commands) {
+            Edge.Steps done = steps.then(command);
+            Edge.Steps undone = done.then(Box::undo);
+            Check.due("30: something changed", false, () -> Seen.present(steps).equals(Seen.present(done)));
+            Check.due("30: undone", 5, () -> made(done).undo());
+            alike("30: as before", steps, undone);
+            Check.due("30: replayed", true, () -> made(undone).isReplayed());
+            alike("30: done once more", done, undone.then(command));
+            Check.due("30: numbers are given again", 2, () -> made(undone).hold(0, 1, 1, 0, 0, 1));
         }
-        Check.due("30: numbers are given again", 2, () -> box.hold(0, 1, 1, 0, 0, 1));
         undoLimit();
     }
 
     private static void undoLimit() {
-        TheatreBoxOffice box = open(1);
+        Box box = open(1);
         for (int i = 1; i <= 12; i++) {
             box.setPrice(1, i);
         }
@@ -981,7 +935,7 @@ public final class PromiseTest {
         Check.refused("30: the others stay", 7, box, box::undo);
         Check.due("30: commands", 5, () -> box.count(7));
         Check.due("30: the price of then", 4, () -> box.setPrice(1, 0));
-        TheatreBoxOffice typed = open(1);
+        Box typed = open(1);
         typed.append('1');
         typed.setRule(false);
         typed.append('1');
@@ -994,12 +948,10 @@ public final class PromiseTest {
         Check.due("30: the snapshot stays", 0, typed::restore);
     }
 
-    private static void isReplayed() {
-        TheatreBoxOffice box = new TheatreBoxOffice();
-        Check.due("31: nothing", true, box::isReplayed);
-        type(box, "22222222/2222wc11/11111111");
+    /** At least one of each command, and seats that are free, held, sold and blocked. */
+    private static void commands(Box box) {
+        box.type("22222222/2222wc11/11111111");
         box.load();
-        Check.due("31: a hall", true, box::isReplayed);
         box.addPerformance(100, 100);
         box.addPerformance(400, 120);
         box.addPerformance(500, 80);
@@ -1021,13 +973,19 @@ public final class PromiseTest {
         box.refund(0, 1);
         box.hold(5, 4, 1, 0, 0, 60);
         box.release(4);
-        String before = all(box);
+    }
+
+    private static void isReplayed() {
+        Check.due("31: nothing", true, () -> new Box().isReplayed());
+        Check.due("31: a hall", true, () -> hall("22222222/2222wc11/11111111").isReplayed());
+        Edge.Steps steps = PromiseTest::commands;
+        alike("31: the state stays", steps, steps.then(Box::isReplayed));
+        Box box = made(steps);
         Check.due("31: all commands", true, box::isReplayed);
-        Check.due("31: the state stays", before, () -> all(box));
         Check.due("31: undo goes on", 7, box::undo);
         Check.due("31: after undo", true, box::isReplayed);
         box.snapshot();
-        type(box, "1");
+        box.type("1");
         box.load();
         Check.due("31: after load", true, box::isReplayed);
         box.restore();
@@ -1035,31 +993,37 @@ public final class PromiseTest {
     }
 
     private static void snapshot() {
-        TheatreBoxOffice box = open("12/wc", 1000);
+        Edge.Steps steps = Edge.open("12/wc", 1000).then(b -> b.advance(3)).then(b -> b.hold(4, 1, 2, 0, 1, 60));
+        Edge.Steps left = steps.then(Box::snapshot).then(b -> b.confirm(0)).then(b -> b.advance(4))
+                .then(b -> b.setPrice(1, 8)).then(b -> b.append('1'));
+        alike("32: the state stays", steps, steps.then(Box::snapshot));
+        alike("33: all is back", steps, left.then(Box::restore));
+        Edge.Steps other = left.then(Box::restore).then(b -> b.type("/1")).then(Box::load);
+        alike("33: all is back again, with its hall", steps, other.then(Box::restore));
+        Box box = made(steps);
         Check.refused("33: none", 7, box, box::restore);
-        box.advance(3);
-        box.hold(4, 1, 2, 0, 1, 60);
         Check.due("32: time", 3, box::snapshot);
-        String before = all(box);
         Check.due("32: no command", 3, () -> box.count(7));
         box.confirm(0);
         Check.due("32: undo goes on", 3, box::undo);
         box.advance(4);
-        box.setPrice(1, 8);
         box.append('1');
         Check.due("33: time", 3, box::restore);
-        Check.due("33: all is back", before, () -> all(box));
         Check.refused("33: nothing to undo", 7, box, box::undo);
         Check.due("33: the buffer stays", 2, () -> box.append('x'));
         Check.argument("33: malformed", box::load);
         Check.due("33: replayed", true, box::isReplayed);
         box.setRule(false);
         Check.due("33: a new command can be undone", 0, box::undo);
-        type(box, "3");
+        box.type("3");
         box.load();
-        Check.due("33: again, with its hall", 3, box::restore);
-        Check.due("33: all is back again", before, () -> all(box));
+        Check.due("33: again", 3, box::restore);
         Check.due("33: the error position stays", 1, box::errorPosition);
+        laterSnapshot(box);
+    }
+
+    /** From the time 3 on. */
+    private static void laterSnapshot(Box box) {
         box.advance(5);
         Check.due("32: a later one replaces it", 8, box::snapshot);
         box.advance(5);
@@ -1071,7 +1035,23 @@ public final class PromiseTest {
         Check.due("33: the rule of the snapshot", false, () -> box.setRule(true));
     }
 
+    /** The calls that README.md shows. */
+    private static void readme() {
+        Box box = new Box();
+        Check.due("README: evening", 0, () -> box.addPerformance(1200, 100));
+        Check.due("README: hold", 0, () -> box.hold(3, 1, 2, 0, 0, 30));
+        Check.due("README: row", 1, () -> box.heldBy(0, 2));
+        Check.due("README: paid", 6000, () -> box.confirm(0));
+        box.advance(1100);
+        Check.due("README: back", 3000, () -> box.refund(0, 0));
+        Check.due("README: kept", 3000, () -> box.performance(0, 2));
+        Check.due("README: left", 4, box::undo);
+        Check.due("README: the ticket is back", 6000, () -> box.ticket(0, 0, 4));
+        Check.due("README: another hall", 6, () -> hall("11w/2c2").count(6));
+    }
+
     public static void main(String[] args) {
+        readme();
         newObject();
         append();
         load();

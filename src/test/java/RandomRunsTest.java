@@ -14,6 +14,7 @@ public final class RandomRunsTest {
 
     private long seed;
     private int room;
+    private int calls;
     private final Map<String, Integer> seen = new HashMap<>();
 
     private static Map<String, Method> methods(Class<?> type) {
@@ -171,9 +172,11 @@ public final class RandomRunsTest {
         Object[] args = java.util.Arrays.copyOfRange(call, 1, call.length);
         String want = ask(MODEL.get(name), m, args);
         String got = ask(REAL.get(name), box, args);
-        if (want.equals("IllegalStateException")) {
+        calls++;
+        if (want.equals("IllegalStateException") && calls < CALLS) {
             want += " " + m.reason();
             got += " " + box.reason();
+            calls++;
         }
         String line = name + java.util.Arrays.toString(args);
         told.add(line + " -> " + got);
@@ -183,33 +186,38 @@ public final class RandomRunsTest {
         return false;
     }
 
-    /** Answers whether all calls of a run were answered as is due. */
+    /** Answers whether all calls of a run, as many as the document allows, were answered as is due. */
     private boolean run(int run) {
         seed = run * 7919L + 17;
         room = run % 3;
+        calls = 0;
         TheatreBoxOffice box = new TheatreBoxOffice();
         Model m = new Model();
         List<String> told = new ArrayList<>();
-        int left = CALLS;
+        List<Object[]> next = new ArrayList<>();
         boolean first = true;
-        while (left > 0) {
-            if (first && !once(4) || once(room == 0 ? 2000 : 250)) {
-                String text = map() + (once(300) ? "2".repeat(103) : "");
-                for (int i = 0; i < text.length() && left > 0; i++, left--) {
-                    if (!step(run, box, m, of("append", text.charAt(i)), told)) return false;
-                }
-                if (once(20) && !step(run, box, m, of("append", (char) near(32, 126)), told)) return false;
-                if (!step(run, box, m, of("load"), told)) return false;
-                left -= 2;
-            }
+        while (calls < CALLS) {
+            if (first && !once(4) || once(room == 0 ? 2000 : 250)) addLoad(next);
             first = false;
-            if (!step(run, box, m, next(m), told)) return false;
-            left--;
+            if (next.isEmpty()) next.add(next(m));
+            if (!step(run, box, m, next.remove(0), told)) return false;
         }
         return true;
     }
 
-    /** Long after the 512th call, when answers are free, no call may throw what the document does not name. */
+    private void addLoad(List<Object[]> calls) {
+        String text = map() + (once(300) ? "2".repeat(103) : "");
+        for (int i = 0; i < text.length(); i++) {
+            calls.add(of("append", text.charAt(i)));
+        }
+        if (once(20)) calls.add(of("append", (char) near(32, 126)));
+        calls.add(of("load"));
+    }
+
+    /**
+     * Long after the 512th call answers are free, and are not compared. But by LANGUAGE.md, rule 7, no call may
+     * ever throw by itself, in any state: all that is thrown must be an exception that the signature names.
+     */
     private boolean longRun(int run) {
         seed = run * 104729L + 3;
         room = run % 3;
